@@ -1,0 +1,142 @@
+import java.lang.reflect.InvocationTargetException;
+import java.lang.reflect.Method;
+import java.util.Arrays;
+
+/** Long runs of calls that a counter draws, each answer and each state held against the reference. */
+public final class RandomRunsTest {
+    private static final int RUNS = 700;
+    private static final int CALLS = 512;
+    private static final String[] NAMES = {"put", "longer", "copy", "part", "tells", "exact", "compare", "does",
+        "alone", "shifts", "bit", "setBit", "power", "divides", "type", "erase", "signAt", "read", "write", "push",
+        "clearRow", "fromRow", "toRow", "byteAt", "modPower", "inverse", "symbol", "units", "order", "generator",
+        "isPrime", "modRoot", "condition", "solve", "forget", "root", "perfect", "share", "meanLength", "checksum",
+        "isTrue"};
+    private static final String[] FREQUENT = {"put", "longer", "longer", "does", "does", "does", "setBit", "shifts",
+        "alone", "type", "push", "condition", "copy"};
+    private static final long[] EDGES = {0, 1, 2, 3, -1, -2, 4, 7, 8, 9, 15, 16, 1L << 30, (1L << 30) - 1, -(1L << 30),
+        1L << 31, -(1L << 31), (1L << 31) - 1, -(1L << 31) - 1, 1L << 60, (1L << 60) - 1, -(1L << 60), Long.MAX_VALUE,
+        Long.MIN_VALUE, 4095, 4096, 4097, 1048573, 1048575, 1048576, 1048583, 65537, 6561};
+
+    private static long seed;
+    private static int wrong;
+
+    private static long draw() {
+        seed += 0x9E3779B97F4A7C15L;
+        long mixed = (seed ^ seed >>> 30) * 0xBF58476D1CE4E5B9L;
+        mixed = (mixed ^ mixed >>> 27) * 0x94D049BB133111EBL;
+        return mixed ^ mixed >>> 31;
+    }
+
+    private static int draw(int bound) {
+        return (int) Long.remainderUnsigned(draw(), bound);
+    }
+
+    private static boolean oneIn(int times) {
+        return draw(times) == 0;
+    }
+
+    private static char pick(String signs) {
+        return signs.charAt(draw(signs.length()));
+    }
+
+    private static int register() {
+        return oneIn(60) ? (oneIn(2) ? -1 : 8) : draw(8);
+    }
+
+    private static int number(int least, int greatest) {
+        switch (draw(25)) {
+            case 0: return least - 1;
+            case 1: return greatest + 1;
+            case 2: case 3: return least;
+            case 4: case 5: return greatest;
+            default: return least + draw(greatest - least + 1);
+        }
+    }
+
+    private static long longNumber() {
+        switch (draw(4)) {
+            case 0: return EDGES[draw(EDGES.length)];
+            case 1: return draw();
+            case 2: return draw(5000);
+            default: return draw() >> draw(64);
+        }
+    }
+
+    private static Object[] arguments(String name) {
+        switch (name) {
+            case "put": case "longer": return new Object[] {register(), longNumber()};
+            case "part": case "bit": return new Object[] {register(), number(0, 700)};
+            case "tells": return new Object[] {register(), pick("slctslctx")};
+            case "does": return new Object[] {pick("+-*/%mgc&|^n<>+-*/%mgc&|^n<>x"), register(), register(), register()};
+            case "alone": return new Object[] {pick("-a~q-a~qx"), register(), register()};
+            case "shifts": return new Object[] {register(), register(), oneIn(2) ? draw(60) - 30 : number(-700, 700)};
+            case "setBit": return new Object[] {register(), number(0, 599), pick("10f10f10fx")};
+            case "power": return new Object[] {register(), register(), oneIn(2) ? draw(5) : number(0, 64)};
+            case "root": return new Object[] {register(), register(), oneIn(2) ? 1 + draw(5) : number(1, 64)};
+            case "type": return new Object[] {oneIn(2) ? pick("0123456789abzABZ+-") : (char) number(33, 126)};
+            case "signAt": return new Object[] {number(0, oneIn(3) ? 609 : 3)};
+            case "byteAt": return new Object[] {number(0, oneIn(3) ? 79 : 3)};
+            case "push": return new Object[] {number(-128, 127)};
+            case "read": case "write": return new Object[] {register(), number(2, 36)};
+            default:
+                Object[] many = new Object[method(Residueworks.class, name).getParameterCount()];
+                for (int i = 0; i < many.length; i++) {
+                    many[i] = register();
+                }
+                return many;
+        }
+    }
+
+    private static Method method(Class<?> of, String name) {
+        for (Method method : of.getDeclaredMethods()) {
+            if (method.getName().equals(name) && java.lang.reflect.Modifier.isPublic(method.getModifiers())) {
+                return method;
+            }
+        }
+        throw new IllegalStateException(name);
+    }
+
+    private static String answer(Object object, String name, Object[] arguments) throws IllegalAccessException {
+        try {
+            return String.valueOf(method(object.getClass(), name).invoke(object, arguments));
+        } catch (InvocationTargetException e) {
+            return "throws." + e.getCause().getClass().getName();
+        }
+    }
+
+    private static void run(int number) throws IllegalAccessException {
+        seed = number;
+        Residueworks program = new Residueworks();
+        Reference reference = new Reference();
+        // A run draws mostly from a few kinds of calls, so that text, row and conditions fill in some.
+        String[] some = {NAMES[draw(NAMES.length)], NAMES[draw(NAMES.length)], NAMES[draw(NAMES.length)]};
+        StringBuilder told = new StringBuilder();
+        for (int call = 0; call < CALLS; call++) {
+            String name = oneIn(3) ? FREQUENT[draw(FREQUENT.length)] : oneIn(3) ? some[draw(3)] : NAMES[draw(NAMES.length)];
+            if ((name.equals("erase") || name.equals("clearRow") || name.equals("forget")) && !oneIn(4)) {
+                name = "type";
+            }
+            Object[] arguments = arguments(name);
+            String got = answer(program, name, arguments);
+            String want = answer(reference, name, arguments);
+            told.append(name).append(Arrays.toString(arguments)).append(' ').append(got).append('\n');
+            if (!got.equals(want) || program.checksum() != reference.checksum()) {
+                wrong++;
+                System.out.println("run " + number + ", call " + call + ": answered " + got + ", due is " + want
+                    + "; the last calls:\n" + told.substring(Math.max(0, told.length() - 600)));
+                return;
+            }
+        }
+    }
+
+    public static void main(String[] args) throws IllegalAccessException {
+        int runs = args.length > 0 ? Integer.parseInt(args[0]) : RUNS;
+        for (int i = 1; i <= runs && wrong < 5; i++) {
+            run(i);
+        }
+        System.out.println(wrong == 0 ? "all random runs are as due" : wrong + " runs are not as due");
+        if (wrong != 0) {
+            System.exit(1);
+        }
+    }
+}

@@ -797,12 +797,18 @@ public final class Residueworks {
         }
 
         private void addTimes(Whole number, long times, int at) {
+            int[] from = number.limbs;
+            int count = number.size;
+            if (at < 0 || at + count >= limbs.length || count > from.length) {
+                return;
+            }
             long carry = 0;
-            for (int i = 0; i <= number.size && at >= 0 && at + i < limbs.length; i++) {
-                long sum = limbs[at + i] + times * number.limb(i) + carry;
+            for (int i = 0; i < count; i++) {
+                long sum = limbs[at + i] + times * from[i] + carry;
                 limbs[at + i] = (int) (sum & MASK);
                 carry = sum >>> LIMB_BITS;
             }
+            limbs[at + count] = (int) carry;
         }
 
         /** The number may be this one itself. */
@@ -936,6 +942,7 @@ public final class Residueworks {
             int shift = Integer.numberOfLeadingZeros(by.limb(by.size - 1)) - 2;
             divisor.shiftUp(by, shift);
             rest.shiftUp(number, shift);
+            rest.setLimb(rest.size, 0);
             int steps = rest.size - divisor.size;
             for (int at = steps; at >= 0; at--) {
                 long digit = guessDigit(at + divisor.size);
@@ -982,16 +989,21 @@ public final class Residueworks {
 
         /** Takes the divisor, so many times, away from the rest; true if that was more than there was. */
         private boolean subtractTimes(long times, int at) {
-            long carry = 0;
-            int borrow = 0;
-            for (int i = 0; i <= divisor.size; i++) {
-                long product = times * divisor.limb(i) + carry;
-                carry = product >>> Whole.LIMB_BITS;
-                int difference = rest.limb(at + i) - (int) (product & Whole.MASK) - borrow;
-                rest.setLimb(at + i, difference & Whole.MASK);
-                borrow = difference < 0 ? 1 : 0;
+            int[] from = rest.limbs;
+            int[] taken = divisor.limbs;
+            int count = divisor.size;
+            if (at < 0 || at + count >= from.length || count > taken.length) {
+                return false;
             }
-            return borrow > 0;
+            long carry = 0;
+            for (int i = 0; i < count; i++) {
+                long difference = from[at + i] - times * taken[i] + carry;
+                from[at + i] = (int) (difference & Whole.MASK);
+                carry = difference >> Whole.LIMB_BITS;
+            }
+            long last = from[at + count] + carry;
+            from[at + count] = (int) (last & Whole.MASK);
+            return last < 0;
         }
 
         private void addBack(int at) {
@@ -1145,8 +1157,13 @@ public final class Residueworks {
          * more than so many bits (the powers on the way are no longer than the last one).
          */
         boolean raise(Whole number, int exponent, int mostBits) {
-            raised.becomeLong(1);
-            for (int at = 31 - Integer.numberOfLeadingZeros(exponent); at >= 0; at--) {
+            if (exponent == 0) {
+                raised.becomeLong(1);
+            } else {
+                raised.become(number);
+            }
+            // The uppermost bit of the exponent is the number itself; the others follow it.
+            for (int at = 30 - Integer.numberOfLeadingZeros(exponent); at >= 0; at--) {
                 spare.productOf(raised, raised);
                 if (spare.bitLength() > mostBits) {
                     return false;
@@ -1160,7 +1177,7 @@ public final class Residueworks {
                     return false;
                 }
             }
-            return true;
+            return raised.bitLength() <= mostBits;
         }
 
         /** Leaves in greatest the root of a number from 0 on, rounded down: bit by bit, from above. */

@@ -120,6 +120,9 @@ public final class LanguageTest {
             Check.same("line " + (i + 1) + " is of signs 32 to 126", true, line.chars().allMatch(sign -> sign >= 32 && sign <= 126));
             Check.same("line " + (i + 1) + " throws as rule 6 has it", true, !code.contains("throw ")
                 || code.matches("\\s*throw new \\w+\\(\"[^\"]*\"\\);"));
+            boolean makes = code.matches(".*\\bnew\\b.*") && !code.contains("throw new");
+            Check.same("line " + (i + 1) + " makes an object in a call", false, makes && !code.matches(
+                "\\s*(private )?final [\\w\\[\\]]+ \\w+ = new .*|\\s*(registers|rests|moduli)\\[i\\] = new Whole\\(\\);"));
             start = code.matches("(    |        )[^ ].*\\{\\s*") && !code.contains("class ") ? i : start;
             boolean end = code.matches("(    |        )\\}\\s*");
             Check.same("the method to line " + (i + 1) + " is short", true, !end || i - start <= 60);

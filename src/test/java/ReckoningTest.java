@@ -17,6 +17,7 @@ public final class ReckoningTest {
         promise13();
         promise14();
         promise15();
+        divisionsSeldomRight();
         Check.finish();
     }
 
@@ -237,5 +238,38 @@ public final class ReckoningTest {
         Check.fails("one -1", x, Check.PLACE, () -> x.divides(3, 4, -1, 5));
         Check.fails("other 8", x, Check.PLACE, () -> x.divides(3, 4, 5, 8));
         Check.wrote("by itself", x, 5, BigInteger.ONE, x.divides(5, 6, 5, 5));
+    }
+
+    /** Digits of extreme values, where the guess of a quotient's digit is wrong at all seldom. */
+    private static void divisionsSeldomRight() {
+        for (int bits : new int[] {30, 32}) {
+            BigInteger[] digits = {BigInteger.ZERO, BigInteger.ONE, Check.two(bits - 1), Check.two(bits - 1).subtract(BigInteger.ONE),
+                Check.two(bits).subtract(BigInteger.ONE), Check.two(bits).subtract(Check.big(2)), Check.two(bits - 1).add(BigInteger.ONE)};
+            int all = digits.length;
+            for (int i = 0; i < all * all * all * all; i++) {
+                for (int j = 1; j < all * all * all; j++) {
+                    if ((i * 31 + j) % 9 != 0) {
+                        continue;
+                    }
+                    BigInteger a = number(digits, i, 4, bits);
+                    BigInteger b = number(digits, j, 3, bits);
+                    Residueworks x = Check.with(a, b);
+                    x.divides(3, 4, 1, 2);
+                    BigInteger[] want = a.divideAndRemainder(b);
+                    Check.same(a + " divides " + b, want[0], Check.get(x, 3));
+                    Check.same(a + " leaves by " + b, want[1], Check.get(x, 4));
+                }
+            }
+        }
+    }
+
+    private static BigInteger number(BigInteger[] digits, int which, int count, int bits) {
+        BigInteger number = BigInteger.ZERO;
+        int left = which;
+        for (int i = 0; i < count; i++) {
+            number = number.shiftLeft(bits).add(digits[left % digits.length]);
+            left /= digits.length;
+        }
+        return number;
     }
 }

@@ -397,7 +397,7 @@ public final class Reference {
         return had;
     }
 
-    private static BigInteger rootOf(BigInteger number, int by) {
+    static BigInteger rootOf(BigInteger number, int by) {
         BigInteger low = BigInteger.ZERO;
         BigInteger high = BigInteger.TWO.pow(number.bitLength() / by + 1);
         while (high.subtract(low).compareTo(BigInteger.ONE) > 0) {

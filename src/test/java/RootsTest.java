@@ -10,20 +10,6 @@ public final class RootsTest {
         Check.finish();
     }
 
-    private static BigInteger rootOf(BigInteger number, int by) {
-        BigInteger low = BigInteger.ZERO;
-        BigInteger high = BigInteger.TWO.pow(number.bitLength() / by + 1);
-        while (high.subtract(low).compareTo(BigInteger.ONE) > 0) {
-            BigInteger middle = low.add(high).shiftRight(1);
-            if (middle.pow(by).compareTo(number) <= 0) {
-                low = middle;
-            } else {
-                high = middle;
-            }
-        }
-        return low;
-    }
-
     private static void promise37() {
         BigInteger[] numbers = {BigInteger.ZERO, BigInteger.ONE, Check.big(2), Check.big(3), Check.big(4), Check.big(8),
             Check.two(30), Check.two(60).subtract(BigInteger.ONE), Check.some(301, 1), Check.some(599, 2), Check.some(600, 3),
@@ -31,15 +17,15 @@ public final class RootsTest {
         for (int by = 1; by <= 64; by++) {
             for (BigInteger number : numbers) {
                 Residueworks x = Check.with(number);
-                Check.wrote("root of " + number + " by " + by, x, 0, rootOf(number, by), x.root(0, 1, by));
+                Check.wrote("root of " + number + " by " + by, x, 0, Reference.rootOf(number, by), x.root(0, 1, by));
             }
             for (int bits = 1; bits * by <= 600; bits += bits < 8 ? 1 : 37) {
                 BigInteger root = Check.some(bits, by);
                 BigInteger power = root.pow(by);
                 Residueworks x = Check.with(power, power.subtract(BigInteger.ONE), power.add(BigInteger.ONE));
                 Check.wrote("root of " + power + " by " + by, x, 1, root, x.root(1, 1, by));
-                Check.wrote("root of less", x, 2, rootOf(power.subtract(BigInteger.ONE), by), x.root(2, 2, by));
-                Check.wrote("root of more", x, 3, rootOf(power.add(BigInteger.ONE), by), x.root(3, 3, by));
+                Check.wrote("root of less", x, 2, Reference.rootOf(power.subtract(BigInteger.ONE), by), x.root(2, 2, by));
+                Check.wrote("root of more", x, 3, Reference.rootOf(power.add(BigInteger.ONE), by), x.root(3, 3, by));
             }
         }
     }
@@ -59,7 +45,7 @@ public final class RootsTest {
 
     private static int greatestExponent(BigInteger number) {
         for (int by = number.bitLength(); by > 1; by--) {
-            if (rootOf(number, by).pow(by).equals(number)) {
+            if (Reference.rootOf(number, by).pow(by).equals(number)) {
                 return by;
             }
         }

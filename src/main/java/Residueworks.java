@@ -1202,8 +1202,9 @@ public final class Residueworks {
         /** The greatest exponent by which a number from 2 on is a power. */
         int greatestExponent(Whole number) {
             int exponent = 1;
+            int length = number.amountLength();
             base.become(number);
-            for (int prime = 2; prime < base.amountLength(); prime++) {
+            for (int prime = 2; prime < length && prime < base.amountLength(); prime++) {
                 if (!Small.primeNumber(prime)) {
                     continue;
                 }

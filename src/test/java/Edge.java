@@ -137,6 +137,9 @@ final class Edge {
         Reference due = state.reference();
         same(what + ", the reference", want, Calls.answer(due, name, arguments));
         same(what + ", then checksum()", due.checksum(), x.checksum());
+        Residueworks used = state.usedProgram();
+        same(what + ", used before", want, Calls.answer(used, name, arguments));
+        same(what + ", used before, then checksum()", due.checksum(), used.checksum());
         for (int part = 0; part < PARTS; part++) {
             Reference y = state.reference();
             Calls.answer(y, name, arguments);

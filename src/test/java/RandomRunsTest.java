@@ -1,5 +1,3 @@
-import java.lang.reflect.InvocationTargetException;
-import java.lang.reflect.Method;
 import java.util.Arrays;
 
 /** Long runs of calls that a counter draws, each answer and each state held against the reference. */
@@ -79,7 +77,7 @@ public final class RandomRunsTest {
             case "push": return new Object[] {number(-128, 127)};
             case "read": case "write": return new Object[] {register(), number(2, 36)};
             default:
-                Object[] many = new Object[method(Residueworks.class, name).getParameterCount()];
+                Object[] many = new Object[Calls.method(Residueworks.class, name).getParameterCount()];
                 for (int i = 0; i < many.length; i++) {
                     many[i] = register();
                 }
@@ -87,24 +85,7 @@ public final class RandomRunsTest {
         }
     }
 
-    private static Method method(Class<?> of, String name) {
-        for (Method method : of.getDeclaredMethods()) {
-            if (method.getName().equals(name) && java.lang.reflect.Modifier.isPublic(method.getModifiers())) {
-                return method;
-            }
-        }
-        throw new IllegalStateException(name);
-    }
-
-    private static String answer(Object object, String name, Object[] arguments) throws IllegalAccessException {
-        try {
-            return String.valueOf(method(object.getClass(), name).invoke(object, arguments));
-        } catch (InvocationTargetException e) {
-            return "throws." + e.getCause().getClass().getName();
-        }
-    }
-
-    private static void run(int number) throws IllegalAccessException {
+    private static void run(int number) {
         seed = number;
         Residueworks program = new Residueworks();
         Reference reference = new Reference();
@@ -117,8 +98,8 @@ public final class RandomRunsTest {
                 name = "type";
             }
             Object[] arguments = arguments(name);
-            String got = answer(program, name, arguments);
-            String want = answer(reference, name, arguments);
+            String got = Calls.answer(program, name, arguments);
+            String want = Calls.answer(reference, name, arguments);
             told.append(name).append(Arrays.toString(arguments)).append(' ').append(got).append('\n');
             if (!got.equals(want) || program.checksum() != reference.checksum()) {
                 wrong++;
@@ -129,7 +110,7 @@ public final class RandomRunsTest {
         }
     }
 
-    public static void main(String[] args) throws IllegalAccessException {
+    public static void main(String[] args) {
         int runs = args.length > 0 ? Integer.parseInt(args[0]) : RUNS;
         for (int i = 1; i <= runs && wrong < 5; i++) {
             run(i);

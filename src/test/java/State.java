@@ -10,6 +10,15 @@ import java.util.List;
 final class State {
     /** So many calls are left of 512 to read an object that a state has made. */
     private static final int MOST_CALLS = 330;
+    /** Calls with long numbers, so that what an object reckons with inside is not as it was at first. */
+    private static final Object[][] USE = {
+        {"put", 0, -1}, {"shifts", 0, 0, 600}, {"alone", '~', 1, 0}, {"put", 2, -1}, {"setBit", 2, 299, 'f'}, {"alone", '~', 2, 2},
+        {"put", 3, 1}, {"shifts", 3, 3, 299}, {"setBit", 3, 0, '1'}, {"put", 4, 5}, {"longer", 4, -9}, {"longer", 4, 77},
+        {"does", 'c', 7, 3, 4}, {"does", 'g', 7, 1, 3}, {"does", '*', 7, 3, 2}, {"does", '/', 7, 1, 4}, {"does", 'm', 6, 0, 3},
+        {"does", '+', 7, 0, 1}, {"does", '-', 7, 2, 1}, {"does", '^', 7, 0, 2}, {"divides", 5, 6, 0, 4}, {"root", 7, 1, 3},
+        {"perfect", 4}, {"power", 7, 3, 2}, {"modPower", 7, 0, 4, 1}, {"inverse", 7, 2, 1}, {"symbol", 4, 1},
+        {"condition", 1, 3}, {"condition", 4, 2}, {"solve", 6, 7}, {"forget"}, {"isTrue", 0, 4, 1}, {"write", 0, 2}, {"read", 7, 2},
+        {"toRow", 0}, {"fromRow", 7}, {"erase"}, {"clearRow"}, {"alone", 'q', 7, 1}};
 
     private final BigInteger[] registers = new BigInteger[8];
     private final List<BigInteger> conditions = new ArrayList<>();
@@ -141,11 +150,7 @@ final class State {
         return calls;
     }
 
-    private <T> T made(T object) {
-        List<Object[]> calls = calls();
-        if (calls.size() > MOST_CALLS) {
-            Check.same("a state is made by at most " + MOST_CALLS + " calls", true, false);
-        }
+    private static <T> T called(T object, List<Object[]> calls) {
         for (Object[] call : calls) {
             Object[] arguments = Arrays.copyOfRange(call, 1, call.length);
             String answer = Calls.answer(object, (String) call[0], arguments);
@@ -156,8 +161,25 @@ final class State {
         return object;
     }
 
+    private <T> T made(T object) {
+        List<Object[]> calls = calls();
+        if (calls.size() > MOST_CALLS) {
+            Check.same("a state is made by at most " + MOST_CALLS + " calls", true, false);
+        }
+        return called(object, calls);
+    }
+
     Residueworks program() {
         return made(new Residueworks());
+    }
+
+    /** The same state, of an object that has done something else before. */
+    Residueworks usedProgram() {
+        Residueworks x = called(new Residueworks(), List.of(USE));
+        for (int i = 0; i < registers.length; i++) {
+            x.put(i, 0);
+        }
+        return made(x);
     }
 
     Reference reference() {

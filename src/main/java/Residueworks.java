@@ -728,7 +728,8 @@ public final class Residueworks {
         /** 64 bits of two's complement without end, from the bit at on. */
         long window(int at) {
             long bits = 0;
-            for (int i = at / LIMB_BITS; i * LIMB_BITS < at + 64; i++) {
+            int last = (at + 63) / LIMB_BITS;
+            for (int i = at / LIMB_BITS; i <= last; i++) {
                 long limb = endlessLimb(i);
                 int up = i * LIMB_BITS - at;
                 bits |= up < 0 ? limb >>> -up : limb << up;
@@ -1282,13 +1283,13 @@ public final class Residueworks {
             return (int) power;
         }
 
-        /** The order of a number that is prime to the modulus; 0 if it is not. */
+        /** The order of a number that is prime to the modulus, which is above 1; 0 if it is not. */
         static int orderOf(int number, int modulus) {
             if (modulus <= 0) {
                 return 0;
             }
             int power = 1;
-            for (int order = 1; order <= modulus; order++) {
+            for (int order = 1; order < modulus; order++) {
                 power = (int) ((long) power * number % modulus);
                 if (power == 1) {
                     return order;

@@ -21,6 +21,15 @@ import java.util.spi.ToolProvider;
 /** The document's face, and those rules of LANGUAGE.md that can be seen from outside. Runs in the project's folder. */
 public final class LanguageTest {
     private static final String SOURCE = "src/main/java/Residueworks.java";
+    private static final String DOCUMENT = "../shared/DOC.md";
+    /** Of what rule 4 lists, what the program uses; and the exceptions that it makes. */
+    private static final Set<String> LIBRARY = Set.of("java/lang/Object.<init>", "java/lang/System.arraycopy", "java/util/Arrays.fill",
+        "java/lang/Integer.bitCount", "java/lang/Integer.numberOfLeadingZeros", "java/lang/Integer.numberOfTrailingZeros",
+        "java/lang/IndexOutOfBoundsException.<init>", "java/lang/IllegalArgumentException.<init>",
+        "java/lang/ArithmeticException.<init>", "java/lang/IllegalStateException.<init>", "java/util/NoSuchElementException.<init>");
+    private static final Pattern COUNTED = Pattern.compile(
+        "\\s*for \\(int (\\w+) = [^;]+; ([^;]+); (\\w+)(\\+\\+|--| \\+= \\d+| -= \\d+)\\) \\{");
+    private static final Pattern WHILE = Pattern.compile("\\s*while \\((.+)\\) \\{");
     private static final String[] FACE = {
         "int put(int,long) P", "int longer(int,long) PS", "int copy(int,int) P", "long part(int,int) PA",
         "int tells(int,char) PA", "int exact(int) PN", "int compare(int,int) P", "int does(char,int,int,int) PANS",
@@ -39,9 +48,11 @@ public final class LanguageTest {
 
     public static void main(String[] args) throws IOException {
         face();
+        documentsFace();
         classes();
         source();
-        depth();
+        loops();
+        calls();
         Check.finish();
     }
 
@@ -82,6 +93,26 @@ public final class LanguageTest {
                     !ofFace && openNames.contains(method.getName()));
             }
         }
+    }
+
+    /** The document's code block, line by line, with the names of the parameters; and nothing else that is public. */
+    private static void documentsFace() throws IOException {
+        String document = Files.readString(Path.of(DOCUMENT));
+        String block = document.substring(document.indexOf("```java") + 7);
+        block = block.substring(0, block.indexOf("```"));
+        String source = Files.readString(Path.of(SOURCE)).replaceAll("\\s+", " ");
+        int members = 0;
+        for (String line : block.split("\n")) {
+            String member = line.strip();
+            if (member.startsWith("public ") && member.endsWith(";")) {
+                members++;
+                member = member.substring(0, member.length() - 1) + " {";
+                Check.same("the program has " + member, true, source.contains(" " + member));
+            }
+        }
+        Check.same("members of the document's face", FACE.length + 1, members);
+        Check.same("what is public, the class too", members + 1, source.split("\\bpublic\\b").length - 1);
+        Check.same("what is protected", false, source.contains("protected "));
     }
 
     private static void classes() {
@@ -130,7 +161,61 @@ public final class LanguageTest {
         Check.same("imports", new TreeSet<>(List.of("import java.util.Arrays;", "import java.util.NoSuchElementException;")), imports);
     }
 
-    private static void depth() {
+    /** Rule 9: each loop has a counter, a bound that the counter goes to, and a body that leaves both alone. */
+    private static void loops() throws IOException {
+        List<String> lines = Files.readAllLines(Path.of(SOURCE));
+        int loops = 0;
+        for (int i = 0; i < lines.size(); i++) {
+            if (lines.get(i).matches("\\s*(for|while|do)\\b.*")) {
+                loops++;
+                String indent = lines.get(i).replaceAll("\\S.*", "");
+                int end = i;
+                while (!lines.get(end).equals(indent + "}")) {
+                    end++;
+                }
+                String body = String.join("\n", lines.subList(i + 1, end));
+                Check.same("the end of the loop in line " + (i + 1) + " is seen", true, ends(lines.get(i), body));
+            }
+        }
+        Check.same("loops were found", true, loops > 40);
+    }
+
+    private static boolean ends(String head, String body) {
+        Matcher counted = COUNTED.matcher(head);
+        if (counted.matches()) {
+            String counter = counted.group(1);
+            boolean up = counted.group(4).contains("+");
+            return counter.equals(counted.group(3)) && !assigns(body, counter) && hasBound(counted.group(2), counter, up, body);
+        }
+        Matcher other = WHILE.matcher(head);
+        if (!other.matches()) {
+            return false;
+        }
+        Matcher step = Pattern.compile("(?m)^\\s*(\\w+)(\\+\\+|--);$").matcher(body);
+        return step.find() && hasBound(other.group(1), step.group(1), step.group(2).equals("++"), body);
+    }
+
+    private static boolean assigns(String body, String name) {
+        return Pattern.compile("\\b" + name + "( [-+*/%&|^]?= |\\+\\+|--)").matcher(body).find();
+    }
+
+    private static boolean hasBound(String condition, String counter, boolean up, String body) {
+        for (String part : condition.split(" && ")) {
+            Matcher bound = Pattern.compile("(\\w+) (<|<=|>|>=) ([\\w.]+)").matcher(part);
+            boolean whole = bound.matches();
+            if (whole && bound.group(1).equals(counter) && bound.group(2).startsWith(up ? "<" : ">")) {
+                return !assigns(body, bound.group(3));
+            }
+            // A place that goes down to another one, which may go up to it.
+            if (whole && !up && bound.group(3).equals(counter) && bound.group(2).equals("<")) {
+                return !Pattern.compile("\\b" + bound.group(1) + "( [-+*/%&|^]?= |--)").matcher(body).find();
+            }
+        }
+        return false;
+    }
+
+    /** Calls go at most eight deep, and to what rule 4 lists alone. */
+    private static void calls() {
         Map<String, Set<String>> calls = new HashMap<>();
         List<Class<?>> all = new ArrayList<>(List.of(Residueworks.class.getDeclaredClasses()));
         all.add(Residueworks.class);
@@ -140,6 +225,11 @@ public final class LanguageTest {
         int deepest = 0;
         for (String method : calls.keySet()) {
             deepest = Math.max(deepest, depthOf(method, calls, 0));
+        }
+        for (Set<String> callees : calls.values()) {
+            for (String callee : callees) {
+                Check.same(callee + " may be called", true, calls.containsKey(callee) || LIBRARY.contains(callee));
+            }
         }
         Check.same("calls go at most eight deep, but go " + deepest, true, deepest > 3 && deepest <= 8);
     }

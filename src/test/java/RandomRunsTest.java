@@ -15,67 +15,38 @@ public final class RandomRunsTest {
         1L << 31, -(1L << 31), (1L << 31) - 1, -(1L << 31) - 1, 1L << 60, (1L << 60) - 1, -(1L << 60), Long.MAX_VALUE,
         Long.MIN_VALUE, 4095, 4096, 4097, 1048573, 1048575, 1048576, 1048583, 65537, 6561};
 
-    private static long seed;
+    private static Draw draw;
     private static int wrong;
 
-    private static long draw() {
-        seed += 0x9E3779B97F4A7C15L;
-        long mixed = (seed ^ seed >>> 30) * 0xBF58476D1CE4E5B9L;
-        mixed = (mixed ^ mixed >>> 27) * 0x94D049BB133111EBL;
-        return mixed ^ mixed >>> 31;
-    }
-
-    private static int draw(int bound) {
-        return (int) Long.remainderUnsigned(draw(), bound);
-    }
-
-    private static boolean oneIn(int times) {
-        return draw(times) == 0;
-    }
-
-    private static char pick(String signs) {
-        return signs.charAt(draw(signs.length()));
-    }
-
     private static int register() {
-        return oneIn(60) ? (oneIn(2) ? -1 : 8) : draw(8);
-    }
-
-    private static int number(int least, int greatest) {
-        switch (draw(25)) {
-            case 0: return least - 1;
-            case 1: return greatest + 1;
-            case 2: case 3: return least;
-            case 4: case 5: return greatest;
-            default: return least + draw(greatest - least + 1);
-        }
+        return draw.oneIn(60) ? (draw.oneIn(2) ? -1 : 8) : draw.below(8);
     }
 
     private static long longNumber() {
-        switch (draw(4)) {
-            case 0: return EDGES[draw(EDGES.length)];
-            case 1: return draw();
-            case 2: return draw(5000);
-            default: return draw() >> draw(64);
+        switch (draw.below(4)) {
+            case 0: return EDGES[draw.below(EDGES.length)];
+            case 1: return draw.word();
+            case 2: return draw.below(5000);
+            default: return draw.word() >> draw.below(64);
         }
     }
 
     private static Object[] arguments(String name) {
         switch (name) {
             case "put": case "longer": return new Object[] {register(), longNumber()};
-            case "part": case "bit": return new Object[] {register(), number(0, 700)};
-            case "tells": return new Object[] {register(), pick("slctslctx")};
-            case "does": return new Object[] {pick("+-*/%mgc&|^n<>+-*/%mgc&|^n<>x"), register(), register(), register()};
-            case "alone": return new Object[] {pick("-a~q-a~qx"), register(), register()};
-            case "shifts": return new Object[] {register(), register(), oneIn(2) ? draw(60) - 30 : number(-700, 700)};
-            case "setBit": return new Object[] {register(), number(0, 599), pick("10f10f10fx")};
-            case "power": return new Object[] {register(), register(), oneIn(2) ? draw(5) : number(0, 64)};
-            case "root": return new Object[] {register(), register(), oneIn(2) ? 1 + draw(5) : number(1, 64)};
-            case "type": return new Object[] {oneIn(2) ? pick("0123456789abzABZ+-") : (char) number(33, 126)};
-            case "signAt": return new Object[] {number(0, oneIn(3) ? 609 : 3)};
-            case "byteAt": return new Object[] {number(0, oneIn(3) ? 79 : 3)};
-            case "push": return new Object[] {number(-128, 127)};
-            case "read": case "write": return new Object[] {register(), number(2, 36)};
+            case "part": case "bit": return new Object[] {register(), draw.number(0, 700)};
+            case "tells": return new Object[] {register(), draw.of("slctslctx")};
+            case "does": return new Object[] {draw.of("+-*/%mgc&|^n<>+-*/%mgc&|^n<>x"), register(), register(), register()};
+            case "alone": return new Object[] {draw.of("-a~q-a~qx"), register(), register()};
+            case "shifts": return new Object[] {register(), register(), draw.oneIn(2) ? draw.below(60) - 30 : draw.number(-700, 700)};
+            case "setBit": return new Object[] {register(), draw.number(0, 599), draw.of("10f10f10fx")};
+            case "power": return new Object[] {register(), register(), draw.oneIn(2) ? draw.below(5) : draw.number(0, 64)};
+            case "root": return new Object[] {register(), register(), draw.oneIn(2) ? 1 + draw.below(5) : draw.number(1, 64)};
+            case "type": return new Object[] {draw.oneIn(2) ? draw.of("0123456789abzABZ+-") : (char) draw.number(33, 126)};
+            case "signAt": return new Object[] {draw.number(0, draw.oneIn(3) ? 609 : 3)};
+            case "byteAt": return new Object[] {draw.number(0, draw.oneIn(3) ? 79 : 3)};
+            case "push": return new Object[] {draw.number(-128, 127)};
+            case "read": case "write": return new Object[] {register(), draw.number(2, 36)};
             default:
                 Object[] many = new Object[Calls.method(Residueworks.class, name).getParameterCount()];
                 for (int i = 0; i < many.length; i++) {
@@ -86,15 +57,15 @@ public final class RandomRunsTest {
     }
 
     private static void run(int number) {
-        seed = number;
+        draw = new Draw(number);
         Residueworks program = new Residueworks();
         Reference reference = new Reference();
         // A run draws mostly from a few kinds of calls, so that text, row and conditions fill in some.
-        String[] some = {NAMES[draw(NAMES.length)], NAMES[draw(NAMES.length)], NAMES[draw(NAMES.length)]};
+        String[] some = {NAMES[draw.below(NAMES.length)], NAMES[draw.below(NAMES.length)], NAMES[draw.below(NAMES.length)]};
         StringBuilder told = new StringBuilder();
         for (int call = 0; call < CALLS; call++) {
-            String name = oneIn(3) ? FREQUENT[draw(FREQUENT.length)] : oneIn(3) ? some[draw(3)] : NAMES[draw(NAMES.length)];
-            if ((name.equals("erase") || name.equals("clearRow") || name.equals("forget")) && !oneIn(4)) {
+            String name = draw.oneIn(3) ? FREQUENT[draw.below(FREQUENT.length)] : draw.oneIn(3) ? some[draw.below(3)] : NAMES[draw.below(NAMES.length)];
+            if ((name.equals("erase") || name.equals("clearRow") || name.equals("forget")) && !draw.oneIn(4)) {
                 name = "type";
             }
             Object[] arguments = arguments(name);

@@ -66,7 +66,8 @@ public final class BlocksTest {
                 number = blocks(draw, MOST_BITS);
         }
         number = draw.oneIn(3) ? number.add(BigInteger.valueOf(draw.of(-2, -1, 1, 2))) : number;
-        number = draw.oneIn(3) ? number.negate() : draw.oneIn(3) ? number.not() : number;
+        // Odd ones above 0 are moduli that much is prime to.
+        number = draw.oneIn(3) ? number.setBit(0) : draw.oneIn(3) ? number.negate() : draw.oneIn(3) ? number.not() : number;
         return number.bitLength() > MOST_BITS ? number.shiftRight(number.bitLength() - MOST_BITS) : number;
     }
 
@@ -123,16 +124,17 @@ public final class BlocksTest {
     }
 
     private void run() {
-        few = 1 + draw.below(8);
+        few = 2 + draw.below(7);
         boolean goes = true;
         for (int register = 0; register < few && goes; register++) {
             goes = puts(register, number());
         }
         while (goes && calls < CALLS - 12) {
             String name = NAMES[draw.below(NAMES.length)];
-            if (draw.oneIn(12)) {
-                goes = puts(draw.below(few), number());
-            } else if (draw.oneIn(12)) {
+            int register = draw.below(few);
+            if (reference.held(register).bitLength() < MOST_BITS / 3 && draw.oneIn(3)) {
+                goes = puts(register, number());
+            } else if (draw.oneIn(20)) {
                 goes = goes(draw.oneIn(2) ? "erase" : "clearRow");
             } else {
                 goes = goes(name, arguments(name));
